@@ -657,9 +657,9 @@ public final class KilnCourses {
         return (int) ((bytes >>> (8 * i)) & 255);
     }
 
-    /** What a setting means. */
+    /** What a setting means; off is what is none of the others. */
     private static final class Burner {
-        static final int OFF = 0, LOW = 1, MID = 2, HIGH = 3;
+        private static final int LOW = 1, MID = 2, HIGH = 3;
 
         static int given(int setting, int heat) {
             switch (setting) {

@@ -26,6 +26,7 @@ public final class CoursesTest {
         Due.is("feed 9", x.feed(9, 0), -2);
         Due.is("feed -1", x.feed(-1, 0), -2);
         Due.is("a byte of 128", x.feed(3, 0x800000L), -2);
+        Due.is("a first byte of 128", x.feed(3, 0x000080L), -2);
         Due.is("a byte of 255 at the top", x.feed(8, 0xFF00000000000000L), -2);
         Due.is("none came", x.count(3), 0);
         Due.is("bytes of 0 and 127", x.feed(8, 0x7F007F007F007F00L), 8);
@@ -45,12 +46,14 @@ public final class CoursesTest {
         String[] texts = {
             "off", "low", "mid", "full", "low x2", "low x1", "low x 9", "full/low/off", " full / low\n/ off x3 ",
             "low;mid;full;off;low;mid", "low/low/low", "low x3;mid/off/full x9\n;\nfull", "low\nx\n9", "mid/mid/off x2;off",
+            "mid/off/mid;off/mid/mid",
         };
         String[] prints = {
             "off", "low", "mid", "full", "low x2", "low", "low x9", "full/low/off", "full/low/off x3",
             "low;mid;full;off;low;mid", "low", "low x3;mid/off/full x9;full", "low x9", "mid/mid/off x2;off",
+            "mid/off/mid;off/mid/mid",
         };
-        int[] legs = {1, 1, 1, 1, 1, 1, 1, 1, 1, 6, 1, 3, 1, 2};
+        int[] legs = {1, 1, 1, 1, 1, 1, 1, 1, 1, 6, 1, 3, 1, 2, 2};
         KilnCourses x = new KilnCourses();
         for (int i = 0; i < texts.length; i++) {
             Due.is("legs of '" + texts[i] + "'", Due.course(x, i % 4, texts[i]), legs[i]);
@@ -78,6 +81,9 @@ public final class CoursesTest {
         fault("/low", 0);
         fault("low mid", 4);
         fault("lowmid", 0);
+        fault("lowz", 0);
+        fault("zlow", 0);
+        fault("lowa", 0);
         fault("lowx2", 0);
         fault("low2", 3);
         fault("low x", 5);
@@ -85,6 +91,9 @@ public final class CoursesTest {
         fault("low x0", 5);
         fault("low x12", 5);
         fault("low x01", 5);
+        fault("low x10", 5);
+        fault("low x19", 5);
+        fault("low x91", 5);
         fault("low x;mid", 5);
         fault("low xx", 4);
         fault("low x2x3", 6);
@@ -189,7 +198,11 @@ public final class CoursesTest {
         Due.is("a byte less", x.spelled(0), 0);
         x.feed(1, 'x');
         Due.is("another byte", x.spelled(0), 0);
-        Due.is("none", x.spelled(1), -3);
+        x.course(0);
+        Due.course(x, 1, "low");
+        Due.feed(x, "mow");
+        Due.is("another first byte", x.spelled(1), 0);
+        Due.is("none", x.spelled(2), -3);
         Due.is("course 4", x.spelled(4), -2);
         Due.is("course -1", x.spelled(-1), -2);
     }

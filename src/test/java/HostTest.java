@@ -23,6 +23,7 @@ public final class HostTest {
         Due.heats(x, 1000, 1290, 1090);
         Due.settings(x, 1, 3, 0);
         x.step(1);
+        Due.course(x, 0, "full/off/low");
         Due.course(x, 1, "low x2;mid");
         Due.feed(x, "abc");
         x.sheet(0, 1, 2);
@@ -46,6 +47,7 @@ public final class HostTest {
         Due.settings(x, 2, 0, 3);
         x.step(7);
         x.clear(1);
+        Due.course(x, 0, "off");
         Due.course(x, 2, "off");
         Due.feed(x, "abcd");
         x.sheet(0, -1, 0);
@@ -199,6 +201,10 @@ public final class HostTest {
         fill(x, 0, 1, 0, 1, 0);
         x.sheet(0, 1, 3);
         Due.is("all 0", x.loads(0, 1, 0, 1), 0);
+        fill(x, 0, 1, 6, 0, 0);
+        x.sheet(0, 1, 3);
+        x.put(0, 1, 1);
+        Due.is("the first is 0, too", x.loads(0, 1, 0, 1), 1);
         fill(x, 0, 1, 0, 1, 0);
         x.sheet(0, 0, 2);
         x.sheet(0, 1, 3);

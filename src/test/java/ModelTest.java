@@ -81,6 +81,13 @@ public final class ModelTest {
 
     private boolean feedText(int run) throws ReflectiveOperationException {
         StringBuilder text = new StringBuilder();
+        int course = lot.nextInt(4);
+        if (lot.nextInt(3) == 0 && program.print(course, -1) > 0) {
+            return call(run, named("clear"), new Object[] {(course + 1) % 4}, new int[4])
+                && call(run, named("course"), new Object[] {(course + 1) % 4}, new int[4])
+                && feedAll(run, Due.printed(program, course))
+                && call(run, named("spelled"), new Object[] {course}, new int[4]);
+        }
         boolean sound = lot.nextBoolean();
         int legs = 1 + lot.nextInt(sound ? 6 : 12);
         for (int i = 0; i < legs; i++) {
@@ -90,6 +97,10 @@ public final class ModelTest {
                 text.append(PIECES[lot.nextInt(PIECES.length)]);
             }
         }
+        return feedAll(run, text.toString());
+    }
+
+    private boolean feedAll(int run, String text) throws ReflectiveOperationException {
         for (int at = 0; at < text.length(); at += 8) {
             String part = text.substring(at, Math.min(text.length(), at + 8));
             if (!call(run, named("feed"), new Object[] {part.length(), Due.packed(part)}, new int[4])) {

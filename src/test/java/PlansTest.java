@@ -35,11 +35,14 @@ public final class PlansTest {
         Due.is("then off", x.plan(3, 1, 1), 110);
         Due.is("then off twice", x.plan(4, 1, 1), 1100);
         Due.is("fuel more", x.plan(4, 1, 0), 6);
-        x.setting(0, 3);
+        Due.settings(x, 3, 3, 3);
         x.step(1);
-        Due.is("fuel ahead does not count", x.plan(4, 1, 0), x.plan(4, 1, 0) % 1000);
-        Due.is("settings and steps stay", x.zone(0, 1) * 10 + x.count(2), 31);
         x.anew(0);
+        Due.heats(x, 830, 830, 830);
+        // Off off ends at 791, off low at 809, low off at 807.
+        Due.is("fuel ahead does not count", x.plan(2, 1, 0), 3);
+        Due.is("of like ones the first", x.plan(2, 1, 1), 1);
+        Due.is("settings, fuel and steps stay", x.zone(0, 1) * 1000 + x.count(1) * 10 + x.count(2), 3181);
         Due.heats(x, 900, 900, 900);
         Due.is("hot enough by itself", x.plan(2, 1, 1), 0);
         x.step(2);
@@ -144,6 +147,7 @@ public final class PlansTest {
         x.setting(2, 3);
         x.step(1);
         Due.is("the same truly", x.zone(0, 0), 62);
+        Due.is("fuel more than before", x.careful(0, 0), 0);
     }
 
     private static void carefulWithoutChoice() {

@@ -154,5 +154,8 @@ public final class ToldTest {
         Due.is("of like ones the first", x.drawn(1, 0, 3), 1);
         x.heat(2, 31);
         Due.is("the hottest", x.drawn(1, 0, 3), 2);
+        Due.settings(x, 3, 3, 3);
+        x.step(2);
+        Due.is("fuel more than before", x.drawn(1, 0, 0), 0);
     }
 }

@@ -221,6 +221,13 @@ public final class ZonesLoadsTest {
         Due.is("mass without it", x.zone(0, 2), 1);
         Due.is("a new one takes its number", x.load(5, 9, 0), 1);
         Due.is("and is its own", x.of(1, 0) * 10 + x.of(1, 1), 59);
+        Due.heats(x, 1300, 1300, 1300);
+        Due.settings(x, 3, 3, 3);
+        x.step(2);
+        Due.is("done and soaked", x.of(1, 4) * 10 + x.of(1, 3), 12);
+        Due.is("take", x.take(), 1);
+        Due.is("a new one", x.load(5, 9, 0), 1);
+        Due.is("comes raw, soaked 0", x.of(1, 4) * 10 + x.of(1, 3), 0);
         Due.is("take", x.take(), 1);
         Due.is("take", x.take(), 0);
         Due.is("take of none", x.take(), -3);
