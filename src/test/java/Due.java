@@ -2,15 +2,25 @@
 final class Due {
     private static int asked = 0;
     private static int wrong = 0;
+    private static String heading = "";
 
     private Due() {
+    }
+
+    /** What stands ahead of each wrong answer from now on. */
+    static void under(String words) {
+        heading = words;
+    }
+
+    static int asked() {
+        return asked;
     }
 
     static void is(String call, long got, long want) {
         asked++;
         if (got != want) {
             wrong++;
-            System.out.println(call + " answered " + got + ", due is " + want);
+            System.out.println(heading + call + " answered " + got + ", due is " + want);
         }
     }
 
@@ -18,7 +28,7 @@ final class Due {
         asked++;
         if (!so) {
             wrong++;
-            System.out.println("it does not hold: " + what);
+            System.out.println(heading + "it does not hold: " + what);
         }
     }
 
