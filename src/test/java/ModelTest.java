@@ -9,7 +9,8 @@ import java.util.Random;
 /** All promises: runs of calls by a seeded lot, each answer against the model's. */
 public final class ModelTest {
     private static final int RUNS = 1500;
-    private static final int CALLS = 400;
+    // An object is used for 512 calls: a run ends ahead of that, for one turn can make some thirty.
+    private static final int CALLS = 480;
     private static final int[] EDGES = {Integer.MIN_VALUE, Integer.MAX_VALUE, -3, -2, -1, 0, 1, 2, 3, 4, 5, 6, 9, 12, 13, 40, 41, 60, 61, 1300, 1301};
     private static final String[] PIECES = {
         "off", "low", "mid", "full", "/", ";", "x", "x2", "3", "9", "0", "12", " ", "\n", "?", "lo", "low/mid/full", " x4", "full;", "low x3;",
@@ -19,8 +20,8 @@ public final class ModelTest {
     private static final String[] OFTEN = {"load", "heat", "setting", "step", "fire", "tries", "course", "put", "loads", "tells", "careful", "plan"};
 
     private final Random lot;
-    private KilnCourses program = new KilnCourses();
-    private Model model = new Model();
+    private final KilnCourses program = new KilnCourses();
+    private final Model model = new Model();
     private final List<String> said = new ArrayList<>();
     private final List<Method> methods;
 
@@ -50,7 +51,7 @@ public final class ModelTest {
     }
 
     private boolean runs(int run, int[] seen) throws ReflectiveOperationException {
-        for (int i = 0; i < CALLS; i++) {
+        while (said.size() < CALLS) {
             if (lot.nextInt(12) == 0) {
                 if (!feedText(run)) {
                     return false;
@@ -63,8 +64,8 @@ public final class ModelTest {
                 return false;
             }
         }
-        seen[0] += Integer.bitCount(program.count(4));
-        seen[1] += Integer.bitCount(program.count(5));
+        seen[0] += Integer.bitCount(model.count(4));
+        seen[1] += Integer.bitCount(model.count(5));
         return true;
     }
 
@@ -82,10 +83,10 @@ public final class ModelTest {
     private boolean feedText(int run) throws ReflectiveOperationException {
         StringBuilder text = new StringBuilder();
         int course = lot.nextInt(4);
-        if (lot.nextInt(3) == 0 && program.print(course, -1) > 0) {
+        if (lot.nextInt(3) == 0 && model.print(course, -1) > 0) {
             return call(run, named("clear"), new Object[] {(course + 1) % 4}, new int[4])
                 && call(run, named("course"), new Object[] {(course + 1) % 4}, new int[4])
-                && feedAll(run, Due.printed(program, course))
+                && feedAll(run, printed(course))
                 && call(run, named("spelled"), new Object[] {course}, new int[4]);
         }
         boolean sound = lot.nextBoolean();
@@ -98,6 +99,16 @@ public final class ModelTest {
             }
         }
         return feedAll(run, text.toString());
+    }
+
+    /** By the model, for the program's calls are counted. */
+    private String printed(int course) {
+        StringBuilder text = new StringBuilder();
+        int size = model.print(course, -1);
+        for (int k = 0; k < size; k++) {
+            text.append((char) model.print(course, k));
+        }
+        return text.toString();
     }
 
     private boolean feedAll(int run, String text) throws ReflectiveOperationException {
@@ -127,7 +138,7 @@ public final class ModelTest {
                 return false;
             }
         }
-        for (int load = 0; load < program.count(0); load++) {
+        for (int load = 0; load < model.count(0); load++) {
             if (!call(run, named("anew"), new Object[] {load}, new int[4])) {
                 return false;
             }
@@ -187,7 +198,7 @@ public final class ModelTest {
         int heat = lot.nextInt(1301);
         int course = lot.nextInt(4);
         int zone = lot.nextInt(3);
-        int load = lot.nextInt(Math.max(1, program.count(0)));
+        int load = lot.nextInt(Math.max(1, model.count(0)));
         switch (name) {
             case "heat": case "until": return i == 0 ? zone : heat;
             case "setting": return i == 0 ? zone : lot.nextInt(4);
