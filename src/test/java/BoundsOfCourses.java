@@ -29,6 +29,9 @@ final class BoundsOfCourses {
             Bound.refused(Bound.BAD, "128 at " + i, y -> y.feed(8, 128L << 8 * at));
             Bound.refused(Bound.BAD, "255 at " + i, y -> y.feed(8, 255L << 8 * at));
             Bound.refused(Bound.BAD, "128 at the last of " + (i + 1), y -> y.feed(at + 1, 128L << 8 * at));
+            if (i > 0) {
+                Due.is("255 behind the last of " + i, new KilnCourses().feed(i, 255L << 8 * i), i);
+            }
         }
     }
 

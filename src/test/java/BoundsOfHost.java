@@ -323,6 +323,9 @@ final class BoundsOfHost {
         Bound.refused(Bound.OUTSIDE, "the least n", x -> x.copy(1, 0, 3, 0, Integer.MIN_VALUE));
         Bound.refused(Bound.OUTSIDE, "i and n beyond an int", x -> x.copy(1, 1, 3, 0, Integer.MAX_VALUE));
         Bound.refused(Bound.OUTSIDE, "j and n beyond an int", x -> x.copy(1, 0, 3, Integer.MAX_VALUE, Integer.MAX_VALUE));
+        Bound.refused(Bound.OUTSIDE, "both and n beyond an int", x -> x.copy(1, 1, 3, 1, Integer.MAX_VALUE));
+        Bound.refused(Bound.OUTSIDE, "the most of both and n", x -> x.copy(1, Integer.MAX_VALUE, 3, Integer.MAX_VALUE, Integer.MAX_VALUE));
+        Bound.refused(Bound.OUTSIDE, "the most of both", x -> x.copy(1, Integer.MAX_VALUE, 3, Integer.MAX_VALUE, 1));
         Bound.refused(Bound.OUTSIDE, "the least i", x -> x.copy(1, Integer.MIN_VALUE, 3, 0, Integer.MAX_VALUE));
     }
 }

@@ -32,6 +32,9 @@ final class TermsOfKilns {
         Due.heats(x, 29, 20, 11);
         x.step(1);
         heatsAre(x, 28, 20, 12);
+        Due.heats(x, 11, 20, 29);
+        x.step(1);
+        heatsAre(x, 12, 20, 28);
     }
 
     @Promise(number = 0, words = "An object is used for at most 512 calls after it has been made")
@@ -250,6 +253,10 @@ final class TermsOfKilns {
         x.step(1);
         Due.is("spoiled", x.count(5), 0b1111);
         Due.is("spoiled ones too", x.zone(0, 2), 5 + 18 + 4);
+        x.move(3, 0);
+        Due.is("and one more of them", x.zone(0, 2), 5 + 18 + 4 + 9);
+        x.take();
+        Due.is("and one less", x.zone(0, 2), 5 + 18 + 4);
     }
 
     @Promise(number = 0, words = "MASS counts SPOILED LOADS, too.")

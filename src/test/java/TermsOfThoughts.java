@@ -605,8 +605,12 @@ final class TermsOfThoughts {
     @Promise(number = 0, words = "join() of one with itself doubles it.")
     static void joinOfOneWithItself() {
         KilnCourses x = new KilnCourses();
+        Due.course(x, 0, "mid x2");
+        Due.is("one leg", x.join(0, 0), 2);
+        Due.is("two legs", x.join(0, 0), 4);
+        Due.is("four legs are too many", x.join(0, 0), Bound.FULL);
         Due.course(x, 1, "low;mid/off/full x3;off");
-        Due.is("join", x.join(1, 1), 6);
+        Due.is("three legs", x.join(1, 1), 6);
         Due.holds("doubled", Due.printed(x, 1).equals("low;mid/off/full x3;off;low;mid/off/full x3;off"));
     }
 }
