@@ -8,10 +8,9 @@ import java.nio.file.Path;
 import java.util.Arrays;
 import java.util.Set;
 import java.util.TreeSet;
-import java.util.regex.Matcher;
 import java.util.regex.Pattern;
 
-/** The face as the document has it, and those rules of LANGUAGE.md that a text can be searched for. */
+/** The face as the document has it, and words that the rules of LANGUAGE.md leave no place for; Rules measures more. */
 public final class LanguageTest {
     private static final String[] FACE = {
         "heat int int", "setting int int", "zone int int", "gives int int", "load int int int", "of int int",
@@ -37,7 +36,6 @@ public final class LanguageTest {
         for (String word : RULED_OUT) {
             Due.holds("the source is without " + word, !Pattern.compile(word).matcher(code).find());
         }
-        methods(code);
         Due.end();
     }
 
@@ -99,19 +97,5 @@ public final class LanguageTest {
                 Due.holds("no name of a public method: " + m, !names.contains(m.getName()));
             }
         }
-    }
-
-    private static void methods(String code) {
-        Matcher heads = Pattern.compile("(?m)^( +)(?:public |private |static |final )*[\\w\\[\\]]+ \\w+\\(([^)]*)\\) \\{$").matcher(code);
-        int seen = 0;
-        while (heads.find()) {
-            seen++;
-            String head = heads.group().trim();
-            int end = code.indexOf("\n" + heads.group(1) + "}", heads.end());
-            long lines = code.substring(heads.end(), end).lines().count();
-            Due.holds("some sixty lines at most: " + head, lines <= 60);
-            Due.holds("seven parameters at most: " + head, heads.group(2).split(",").length <= 7);
-        }
-        Due.holds("methods were found", seen > 80);
     }
 }
